@@ -15,6 +15,8 @@ import java.util.Map;
  *   typed [1,2]                       the bytes are appended to the text
  *   slot 0 is [1,2]                   the slot, when written, gives this text
  *   fault 0 of [1,2] is -1            the text is cleared, typed, and has this fault in this ring
+ *   log 0 is 1,1,0,-3,0 2,1,-1,-1,0   the log of the slot, with the five properties of each step
+ *   times 200 swap(0, false, 0, 1)    the call is made so often, and its answers are not looked at
  * </pre>
  */
 final class Script {
@@ -133,9 +135,28 @@ final class Script {
             object.clearText();
             enter(statement.substring(of + 4, Math.max(is, of + 4)));
             expect(statement, statement.substring(is + 4), "" + object.fault(ring));
+        } else if (statement.startsWith("log ")) {
+            String[] parts = statement.split(" ", 4);
+            expect(statement, parts.length < 4 ? "" : parts[3], log(Integer.parseInt(parts[1])));
+        } else if (statement.startsWith("times ")) {
+            String[] parts = statement.split(" ", 3);
+            for (int k = 0; k < Integer.parseInt(parts[1]); k++) {
+                String got = answer(object, method(parts[2]), arguments(parts[2]));
+                check(title + ": " + statement + " answered " + got, !got.startsWith("throws"));
+            }
         } else {
             call(statement);
         }
+    }
+
+    private String log(int slot) {
+        StringBuilder log = new StringBuilder();
+        for (int step = 0; step < object.steps(slot); step++) {
+            for (int what = 0; what < 5; what++) {
+                log.append(what > 0 ? "," : step > 0 ? " " : "").append(object.step(slot, step, what));
+            }
+        }
+        return log.toString();
     }
 
     private void enter(String text) {
@@ -144,19 +165,25 @@ final class Script {
         }
     }
 
-    private void call(String statement) {
-        String name = statement.substring(0, statement.indexOf('('));
+    private static Method method(String statement) {
+        return METHODS.get(statement.substring(0, statement.indexOf('(')));
+    }
+
+    private static Object[] arguments(String statement) {
         String inside = statement.substring(statement.indexOf('(') + 1, statement.indexOf(')'));
-        String due = statement.substring(statement.indexOf(')') + 1).strip();
-        Method method = METHODS.get(name);
         List<Object> arguments = new ArrayList<>();
         for (String argument : inside.isBlank() ? new String[0] : inside.split(",")) {
             String word = argument.strip();
             boolean logical = word.equals("true") || word.equals("false");
             arguments.add(logical ? (Object) Boolean.valueOf(word) : (Object) Integer.valueOf(word));
         }
+        return arguments.toArray();
+    }
+
+    private void call(String statement) {
+        String due = statement.substring(statement.indexOf(')') + 1).strip();
         String before = due.startsWith("throws") ? state(object) : "";
-        String got = answer(object, method, arguments.toArray());
+        String got = answer(object, method(statement), arguments(statement));
         if (due.startsWith("throws")) {
             expect(statement, due + "Exception", got);
             expect(statement + " (what is left)", before, state(object));
