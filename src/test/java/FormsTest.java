@@ -26,6 +26,7 @@ public final class FormsTest {
         Script.run("15 hermite, Gaussian", "typed [2;1+i] | parse(0, 1) = 2 | hermite(0) = 1 | slot 0 is [1+i;0] | log 0 is 0,0,1,0,0 1,1,0,-1,1",
             "typed [-2i,1] | parse(0, 1) = 1 | hermite(0) = 1 | slot 0 is [2,i] | log 0 is 2,0,-1,0,1",
             "typed [3i] | parse(0, 1) = 1 | hermite(0) = 1 | slot 0 is [3] | log 0 is 2,0,-1,0,-1",
+            "typed [-3] | parse(0, 1) = 1 | hermite(0) = 1 | slot 0 is [3] | log 0 is 2,0,-1,-1,0 | smith(0) = 1 | steps(0) = 1",
             "typed [-1-i] | parse(0, 1) = 1 | hermite(0) = 1 | slot 0 is [1+i] | log 0 is 2,0,-1,-1,0");
         Script.run("15 hermite, polynomials", "typed [2x^2+1;x] | parse(0, 3) = 2 | hermite(0) = 1 | slot 0 is [1;0]",
             "log 0 is 0,0,1,0,0 1,1,0,3,0 0,0,1,0,0 1,1,0,6,0", "typed [3x,1] | parse(0, 5) = 1 | hermite(0) = 1 | slot 0 is [x,2] | log 0 is 2,0,-1,2,0");

@@ -58,7 +58,7 @@ public final class SystemsTest {
     private static void invariant() {
         Script.run("22 invariant", "typed [4,4;4,7] | parse(0, 0) = 2 | invariant(0, 0, 0) = 1 | invariant(0, 1, 0) = 12 | invariant(0, 1, 1) = 0 | slot 0 is [4,4;4,7] | steps(0) = 0",
             "typed [2,4,6;1,2,3] | parse(1, 0) = 2 | invariant(1, 0, 0) = 1 | invariant(1, 1, 0) = 0 | invariant(1, 2, 0) throws IllegalArgument",
-            "typed [1+i,0;0,2+i;0,0] | parse(2, 1) = 3 | invariant(2, 1, 0) = 1 | invariant(2, 1, 1) = 3 | invariant(2, 2, 0) throws IllegalArgument");
+            "typed [1+i,0;0,2+i;0,0] | parse(2, 1) = 3 | invariant(2, 1, 0) = 1 | invariant(2, 1, 1) = 3 | invariant(2, 2, 0) throws IllegalArgument | invariant(0, 1, 0) = 12 | invariant(1, 1, 0) = 0");
         Script.run("22 invariant, wrong", "typed [1,1000000000;2,-1000000000] | parse(0, 0) = 2 | invariant(0, 0, 0) throws Arithmetic",
             "invariant(0, 2, 0) throws IllegalArgument | invariant(0, -1, 0) throws IllegalArgument | invariant(0, 0, 2) throws IllegalArgument",
             "invariant(0, 0, -1) throws IllegalArgument | invariant(1, 9, 9) throws IllegalState | invariant(3, 9, 9) throws IndexOutOfBounds | invariant(-1, 0, 0) throws IndexOutOfBounds");
@@ -81,6 +81,7 @@ public final class SystemsTest {
     private static void determinant() {
         Script.run("24 determinant", "typed [2,4;6,8] | parse(0, 0) = 2 | determinant(0, 0) = -8 | determinant(0, 1) = 0 | slot 0 is [2,4;6,8] | steps(0) = 0",
             "typed [0,1;1,0] | parse(0, 0) = 2 | determinant(0, 0) = -1 | typed [1,2;2,4] | parse(0, 0) = 2 | determinant(0, 0) = 0",
+            "typed [2,4;6,8] | parse(1, 0) = 2 | determinant(0, 0) = 0 | determinant(1, 0) = -8 | determinant(0, 0) = 0",
             "typed [0,2,0;0,0,3;5,0,0] | parse(0, 0) = 3 | determinant(0, 0) = 30 | typed [-7] | parse(0, 0) = 1 | determinant(0, 0) = -7");
         Script.run("24 determinant, other rings", "typed [3+i,2;1-2i,5i] | parse(0, 1) = 2 | determinant(0, 0) = -7 | determinant(0, 1) = 19",
             "typed [x,1;1,x] | parse(0, 3) = 2 | determinant(0, 0) = 11 | typed [0,2;1,0] | parse(0, 5) = 2 | determinant(0, 0) = 3",

@@ -24,7 +24,8 @@ public final class TextsTest {
             "fault 0 of [ is 1 | fault 0 of 1 is 0 | fault 0 of ]1] is 0 | fault 0 of [] is 1 | fault 0 of [1 is 2 | fault 0 of [1, is 3 | fault 0 of [1; is 3",
             "fault 0 of [,1] is 1 | fault 0 of [1,] is 3 | fault 0 of [1;] is 3 | fault 0 of [1,;2] is 3 | fault 0 of [1]] is 3 | fault 0 of [1];[2] is 3");
         Script.run("31 fault, too many", "fault 0 of [1,2,3,4,5] is 8 | fault 0 of [1,2,3,4, is 8 | fault 0 of [1;2;3;4;5] is 8 | fault 0 of [1;2;3;4; is 8 | fault 0 of [1,2;3,4,5] is 8",
-            "fault 0 of [1;2,3] is 4 | fault 0 of [1,2;3] is 6 | fault 0 of [1,2;3;4,5] is 6 | fault 0 of [1,2,3;4,5;6 is 10 | fault 0 of [1,2;3 is 6 | fault 0 of [1,2;3,4 is 8 | fault 0 of [1;2;3;4,5] is 8");
+            "fault 0 of [1;2,3] is 4 | fault 0 of [1,2;3] is 6 | fault 0 of [1,2;3;4,5] is 6 | fault 0 of [1,2,3;4,5;6 is 10 | fault 0 of [1,2;3 is 6 | fault 0 of [1,2;3,4 is 8 | fault 0 of [1;2;3;4,5] is 8",
+            "fault 0 of [1,2;3,4;5,6;7] is 14 | fault 0 of [1,2;3,4;5,6;7 is 14 | fault 0 of [1,2;3,4;5,6;7; is 14 | fault 0 of [1,2;3,4;5,6;7,8,9] is 16");
         Script.run("31 fault, blanks and other bytes", "clearText() = 0 | type(91) = 1 | type(32) = 2 | type(49) = 3 | type(93) = 4 | fault(0) = 1 | clearText() = 4",
             "type(91) = 1 | type(49) = 2 | type(32) = 3 | type(93) = 4 | fault(0) = 2 | clearText() = 4 | type(91) = 1 | type(49) = 2 | type(93) = 3 | type(0) = 4 | fault(0) = 3",
             "clearText() = 4 | type(255) = 1 | fault(0) = 0 | clearText() = 1 | type(91) = 1 | type(176) = 2 | fault(0) = 1 | fault(2) = 1 | fault(1) = 1");
