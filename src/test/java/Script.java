@@ -76,7 +76,9 @@ final class Script {
             }
             return result.toString();
         } catch (InvocationTargetException e) {
-            return "throws " + e.getCause().getClass().getSimpleName();
+            // The machine's own exception has the class of one that the document names.
+            boolean byMachine = "/ by zero".equals(e.getCause().getMessage());
+            return "throws " + (byMachine ? "DivisionByZero" : e.getCause().getClass().getSimpleName());
         } catch (IllegalAccessException e) {
             throw new IllegalStateException(e);
         }
