@@ -1,9 +1,11 @@
 import java.lang.reflect.InvocationTargetException;
 import java.lang.reflect.Method;
+import java.lang.reflect.Modifier;
 import java.util.ArrayList;
 import java.util.HashMap;
 import java.util.List;
 import java.util.Map;
+import java.util.Set;
 
 /**
  * Runs calls that are written as in the document's examples, on a new object, and counts wrong
@@ -12,28 +14,135 @@ import java.util.Map;
  * <pre>
  *   create(0, 0, 1, 1) = 1            the call answers 1
  *   ring(3) throws IndexOutOfBounds   the call throws this exception, and nothing changes
+ *   solve(0, 1, 2) = 0 unchanged      the call answers 0, and nothing changes
  *   typed [1,2]                       the bytes are appended to the text
  *   slot 0 is [1,2]                   the slot, when written, gives this text
- *   fault 0 of [1,2] is -1            the text is cleared, typed, and has this fault in this ring
+ *   fault 0 of [1,2] is -1            this text, in another new object, has this fault in this ring
  *   log 0 is 1,1,0,-3,0 2,1,-1,-1,0   the log of the slot, with the five properties of each step
- *   times 200 swap(0, false, 0, 1)    the call is made so often, and its answers are not looked at
+ *   times 200 swap(0, false, 0, 1)    the call is made so often, and must not throw
  * </pre>
+ *
+ * A call of a method that only tells something must leave all as it was, too. What an object is
+ * like is asked of its twins (see there), so that none has more than the 512 calls that are promised.
  */
 final class Script {
     private static final Map<String, Method> METHODS = new HashMap<>();
+    private static final Set<String> ONLY_TELL = Set.of("ring", "rows", "columns", "entry", "steps", "step", "entryAfter", "invariant",
+        "order", "determinant", "sameSpan", "areEquivalent", "quotient", "gcd", "fault", "written");
+    private static final int CALLS = 512;
     private static int wrong;
     private static int checked;
 
     static {
         for (Method method : RingMatrices.class.getDeclaredMethods()) {
-            if (java.lang.reflect.Modifier.isPublic(method.getModifiers())) {
+            if (Modifier.isPublic(method.getModifiers())) {
                 METHODS.put(method.getName(), method);
             }
         }
     }
 
+    /** A call with its arguments, which can be made on any object. */
+    static final class Call {
+        final Method method;
+        final Object[] arguments;
+
+        Call(String name, Object... arguments) {
+            method = METHODS.get(name);
+            this.arguments = arguments;
+        }
+
+        String on(RingMatrices object) {
+            return answer(object, method, arguments);
+        }
+    }
+
+    /** Objects that have had the same calls; a new one is made when the last one has had its 512 calls. */
+    static final class Twins {
+        private final List<Call> past;
+        private RingMatrices object;
+        private int calls = CALLS;
+
+        Twins(List<Call> past) {
+            this.past = past;
+        }
+
+        String ask(String name, Object... arguments) {
+            if (calls >= CALLS) {
+                object = new RingMatrices();
+                past.forEach(call -> call.on(object));
+                calls = past.size();
+            }
+            calls++;
+            return new Call(name, arguments).on(object);
+        }
+
+        int number(String name, Object... arguments) {
+            return Integer.parseInt(ask(name, arguments));
+        }
+
+        /** What is asked next is asked of a new twin, on which the last questions left no mark. */
+        void renew() {
+            calls = CALLS;
+        }
+
+        String log(int slot) {
+            StringBuilder log = new StringBuilder();
+            int steps = number("steps", slot);
+            for (int step = 0; step < steps; step++) {
+                for (int what = 0; what < 5; what++) {
+                    log.append(what > 0 ? "," : step > 0 ? " " : "").append(ask("step", slot, step, what));
+                }
+            }
+            return log.toString();
+        }
+
+        String writtenText() {
+            StringBuilder text = new StringBuilder();
+            for (int k = 0; k < 100000; k++) {
+                String code = ask("written", k);
+                if (code.startsWith("throws")) {
+                    return text.toString();
+                }
+                text.append((char) Integer.parseInt(code));
+            }
+            throw new IllegalStateException("the written text has no end");
+        }
+
+        /** All that can be seen of the object. */
+        String state() {
+            StringBuilder seen = new StringBuilder("written ").append(writtenText());
+            for (int slot = 0; slot < 3; slot++) {
+                seen.append(" slot ").append(slot).append(" ring ").append(ask("ring", slot)).append(" log ").append(log(slot));
+                int rows = number("rows", slot);
+                int columns = number("columns", slot);
+                for (int k = 0; k < rows * columns * 2; k++) {
+                    seen.append(k % 2 > 0 ? "_" : k % (columns * 2) > 0 ? "," : ";");
+                    seen.append(ask("entry", slot, k / 2 / columns, k / 2 % columns, k % 2)).append('/');
+                    seen.append(ask("entryAfter", slot, 0, k / 2 / columns, k / 2 % columns, k % 2));
+                }
+            }
+            for (int ring : new int[] {0, 1, 2, 3, 5, 7}) {
+                seen.append(" fault ").append(ask("fault", ring));
+            }
+            for (int ring : new int[] {0, 1, 2, 3, 5, 7}) {
+                renew();
+                if (!ask("parse", 0, ring).startsWith("throws")) {
+                    ask("write", 0);
+                    seen.append(" parsed ").append(past.size() < 380 ? writtenText() : "");
+                }
+            }
+            renew();
+            return seen.append(" length ").append(ask("clearText")).toString();
+        }
+    }
+
     private final String title;
     private final RingMatrices object = new RingMatrices();
+    /** The calls that the object has had, but for those that threw. */
+    private final List<Call> past = new ArrayList<>();
+    private int calls;
+    private String lastState = "";
+    private int lastStateOf = -1;
 
     private Script(String title) {
         this.title = title;
@@ -84,66 +193,24 @@ final class Script {
         }
     }
 
-    /** All that can be seen of an object without changing it. */
-    static String state(RingMatrices x) {
-        StringBuilder seen = new StringBuilder();
-        for (int slot = 0; slot < 3; slot++) {
-            seen.append("slot ").append(slot).append(" ring ").append(x.ring(slot)).append(" steps ").append(x.steps(slot));
-            for (int row = 0; row < x.rows(slot); row++) {
-                for (int column = 0; column < x.columns(slot); column++) {
-                    seen.append(row == 0 && column == 0 ? " [" : column == 0 ? ";" : ",");
-                    for (int part = 0; part < 2; part++) {
-                        seen.append(x.entry(slot, row, column, part)).append(part == 0 ? "_" : "/");
-                        seen.append(x.entryAfter(slot, 0, row, column, part)).append(' ');
-                    }
-                }
-            }
-            for (int step = 0; step < x.steps(slot); step++) {
-                for (int what = 0; what < 5; what++) {
-                    seen.append(what == 0 ? " step " : ",").append(x.step(slot, step, what));
-                }
-            }
-        }
-        for (int ring : new int[] {0, 1, 2, 3, 5, 7}) {
-            seen.append(" fault ").append(x.fault(ring));
-        }
-        return seen.append(" written ").append(writtenText(x)).toString();
-    }
-
-    static String writtenText(RingMatrices x) {
-        StringBuilder text = new StringBuilder();
-        try {
-            for (int k = 0; k < 100000; k++) {
-                text.append((char) x.written(k));
-            }
-        } catch (IndexOutOfBoundsException e) {
-            return text.toString();
-        }
-        throw new IllegalStateException("the written text has no end");
-    }
-
     private void execute(String statement) {
         if (statement.startsWith("typed ")) {
-            enter(statement.substring(6));
+            for (char c : statement.substring(6).toCharArray()) {
+                make(new Call("type", (int) c));
+            }
         } else if (statement.startsWith("slot ")) {
             String[] parts = statement.split(" ", 4);
-            int length = object.write(Integer.parseInt(parts[1]));
-            expect(statement, parts[3], writtenText(object));
-            expect(statement + " (length)", "" + parts[3].length(), "" + length);
+            expect(statement + " (length)", "" + parts[3].length(), make(new Call("write", Integer.parseInt(parts[1]))));
+            expect(statement, parts[3], new Twins(past).writtenText());
         } else if (statement.startsWith("fault ")) {
-            int ring = Integer.parseInt(statement.split(" ", 3)[1]);
-            int of = statement.indexOf(" of ");
-            int is = statement.lastIndexOf(" is ");
-            object.clearText();
-            enter(statement.substring(of + 4, Math.max(is, of + 4)));
-            expect(statement, statement.substring(is + 4), "" + object.fault(ring));
+            fault(statement);
         } else if (statement.startsWith("log ")) {
             String[] parts = statement.split(" ", 4);
-            expect(statement, parts.length < 4 ? "" : parts[3], log(Integer.parseInt(parts[1])));
+            expect(statement, parts.length < 4 ? "" : parts[3], new Twins(past).log(Integer.parseInt(parts[1])));
         } else if (statement.startsWith("times ")) {
             String[] parts = statement.split(" ", 3);
             for (int k = 0; k < Integer.parseInt(parts[1]); k++) {
-                String got = answer(object, method(parts[2]), arguments(parts[2]));
+                String got = make(callOf(parts[2]));
                 check(title + ": " + statement + " answered " + got, !got.startsWith("throws"));
             }
         } else {
@@ -151,27 +218,31 @@ final class Script {
         }
     }
 
-    private String log(int slot) {
-        StringBuilder log = new StringBuilder();
-        for (int step = 0; step < object.steps(slot); step++) {
-            for (int what = 0; what < 5; what++) {
-                log.append(what > 0 ? "," : step > 0 ? " " : "").append(object.step(slot, step, what));
-            }
+    /** Makes a call, and remembers it if it does not throw. */
+    private String make(Call call) {
+        calls++;
+        if (calls > CALLS) {
+            throw new IllegalStateException(title + " has more calls than an object may have");
         }
-        return log.toString();
-    }
-
-    private void enter(String text) {
-        for (char c : text.toCharArray()) {
-            object.type(c);
+        String got = call.on(object);
+        if (!got.startsWith("throws")) {
+            past.add(call);
         }
+        return got;
     }
 
-    private static Method method(String statement) {
-        return METHODS.get(statement.substring(0, statement.indexOf('(')));
+    private void fault(String statement) {
+        int of = statement.indexOf(" of ") + 4;
+        int is = statement.lastIndexOf(" is ");
+        RingMatrices other = new RingMatrices();
+        for (char c : statement.substring(of, Math.max(is, of)).toCharArray()) {
+            other.type(c);
+        }
+        int ring = Integer.parseInt(statement.split(" ", 3)[1]);
+        expect(statement, statement.substring(is + 4), "" + other.fault(ring));
     }
 
-    private static Object[] arguments(String statement) {
+    private static Call callOf(String statement) {
         String inside = statement.substring(statement.indexOf('(') + 1, statement.indexOf(')'));
         List<Object> arguments = new ArrayList<>();
         for (String argument : inside.isBlank() ? new String[0] : inside.split(",")) {
@@ -179,19 +250,31 @@ final class Script {
             boolean logical = word.equals("true") || word.equals("false");
             arguments.add(logical ? (Object) Boolean.valueOf(word) : (Object) Integer.valueOf(word));
         }
-        return arguments.toArray();
+        return new Call(statement.substring(0, statement.indexOf('(')), arguments.toArray());
     }
 
     private void call(String statement) {
         String due = statement.substring(statement.indexOf(')') + 1).strip();
-        String before = due.startsWith("throws") ? state(object) : "";
-        String got = answer(object, method(statement), arguments(statement));
-        if (due.startsWith("throws")) {
-            expect(statement, due + "Exception", got);
-            expect(statement + " (what is left)", before, state(object));
-        } else {
-            expect(statement, due.substring(1).strip(), got);
+        Call call = callOf(statement);
+        boolean unchanged = due.startsWith("throws") || due.endsWith(" unchanged") || ONLY_TELL.contains(call.method.getName());
+        String before = unchanged ? stateNow() : "";
+        String got = make(call);
+        expect(statement, due.startsWith("throws") ? due + "Exception" : due.substring(1).replace(" unchanged", "").strip(), got);
+        if (unchanged) {
+            List<Call> all = new ArrayList<>(past);
+            if (got.startsWith("throws")) {
+                all.add(call);
+            }
+            expect(statement + " (what is left)", before, new Twins(all).state());
         }
+    }
+
+    private String stateNow() {
+        if (lastStateOf != past.size()) {
+            lastState = new Twins(past).state();
+            lastStateOf = past.size();
+        }
+        return lastState;
     }
 
     private void expect(String statement, String due, String got) {
