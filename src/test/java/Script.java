@@ -2,6 +2,7 @@ import java.lang.reflect.InvocationTargetException;
 import java.lang.reflect.Method;
 import java.lang.reflect.Modifier;
 import java.util.ArrayList;
+import java.util.Arrays;
 import java.util.HashMap;
 import java.util.List;
 import java.util.Map;
@@ -26,33 +27,37 @@ import java.util.Set;
  * like is asked of its twins (see there), so that none has more than the 512 calls that are promised.
  */
 final class Script {
-    private static final Map<String, Method> METHODS = new HashMap<>();
+    private static final Map<String, Method> METHODS = methodsOf(RingMatrices.class);
+    private static final Map<String, Method> METHODS_OF_MODEL = methodsOf(Model.class);
     private static final Set<String> ONLY_TELL = Set.of("ring", "rows", "columns", "entry", "steps", "step", "entryAfter", "invariant",
         "order", "determinant", "sameSpan", "areEquivalent", "quotient", "gcd", "fault", "written");
     private static final int CALLS = 512;
     private static int wrong;
     private static int checked;
 
-    static {
-        for (Method method : RingMatrices.class.getDeclaredMethods()) {
-            if (Modifier.isPublic(method.getModifiers())) {
-                METHODS.put(method.getName(), method);
-            }
-        }
-    }
 
-    /** A call with its arguments, which can be made on any object. */
+    /** A call with its arguments, which can be made on any object of the class or of the model. */
     static final class Call {
-        final Method method;
-        final Object[] arguments;
+        private final String name;
+        private final Object[] arguments;
 
         Call(String name, Object... arguments) {
-            method = METHODS.get(name);
+            this.name = name;
             this.arguments = arguments;
         }
 
-        String on(RingMatrices object) {
-            return answer(object, method, arguments);
+        String on(Object target) {
+            return answer(target, (target instanceof Model ? METHODS_OF_MODEL : METHODS).get(name), arguments);
+        }
+
+        /** Whether it tells something and changes nothing. */
+        boolean onlyTells() {
+            return ONLY_TELL.contains(name);
+        }
+
+        @Override
+        public String toString() {
+            return name + Arrays.toString(arguments);
         }
     }
 
@@ -121,18 +126,21 @@ final class Script {
                     seen.append(ask("entryAfter", slot, 0, k / 2 / columns, k / 2 % columns, k % 2));
                 }
             }
+            List<Integer> fitting = new ArrayList<>();
             for (int ring : new int[] {0, 1, 2, 3, 5, 7}) {
-                seen.append(" fault ").append(ask("fault", ring));
-            }
-            for (int ring : new int[] {0, 1, 2, 3, 5, 7}) {
-                renew();
-                if (!ask("parse", 0, ring).startsWith("throws")) {
-                    ask("write", 0);
-                    seen.append(" parsed ").append(past.size() < 380 ? writtenText() : "");
+                String fault = ask("fault", ring);
+                seen.append(" fault ").append(fault);
+                if (fault.equals("-1")) {
+                    fitting.add(ring);
                 }
             }
-            renew();
-            return seen.append(" length ").append(ask("clearText")).toString();
+            seen.append(" length ").append(ask("clearText"));
+            for (int ring : fitting) {
+                renew();
+                seen.append(" parsed ").append(ask("parse", 0, ring)).append(ask("write", 0));
+                seen.append(past.size() < 380 ? writtenText() : "");
+            }
+            return seen.toString();
         }
     }
 
@@ -160,6 +168,16 @@ final class Script {
         }
     }
 
+    private static Map<String, Method> methodsOf(Class<?> type) {
+        Map<String, Method> methods = new HashMap<>();
+        for (Method method : type.getDeclaredMethods()) {
+            if (Modifier.isPublic(method.getModifiers())) {
+                methods.put(method.getName(), method);
+            }
+        }
+        return methods;
+    }
+
     static void check(String what, boolean holds) {
         checked++;
         if (!holds) {
@@ -185,12 +203,16 @@ final class Script {
             }
             return result.toString();
         } catch (InvocationTargetException e) {
-            // The machine's own exception has the class of one that the document names.
-            boolean byMachine = "/ by zero".equals(e.getCause().getMessage());
-            return "throws " + (byMachine ? "DivisionByZero" : e.getCause().getClass().getSimpleName());
+            return "throws " + (isByMachine(e.getCause()) ? "byItself" : "") + e.getCause().getClass().getSimpleName();
         } catch (IllegalAccessException e) {
             throw new IllegalStateException(e);
         }
+    }
+
+    /** The machine's own exceptions, and those of the library, can have the class of one that the document names. */
+    private static boolean isByMachine(Throwable thrown) {
+        StackTraceElement[] trace = thrown.getStackTrace();
+        return trace.length == 0 || trace[0].getClassName().startsWith("java.") || "/ by zero".equals(thrown.getMessage());
     }
 
     private void execute(String statement) {
@@ -256,7 +278,7 @@ final class Script {
     private void call(String statement) {
         String due = statement.substring(statement.indexOf(')') + 1).strip();
         Call call = callOf(statement);
-        boolean unchanged = due.startsWith("throws") || due.endsWith(" unchanged") || ONLY_TELL.contains(call.method.getName());
+        boolean unchanged = due.startsWith("throws") || due.endsWith(" unchanged") || call.onlyTells();
         String before = unchanged ? stateNow() : "";
         String got = make(call);
         expect(statement, due.startsWith("throws") ? due + "Exception" : due.substring(1).replace(" unchanged", "").strip(), got);

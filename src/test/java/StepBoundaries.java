@@ -30,7 +30,8 @@ final class StepBoundaries {
 
     private static void emptySlots(int promise, String... calls) {
         for (String call : calls) {
-            Sentences.test(promise, EMPTY, Sentences.each(call + " throws IllegalState", 0, 1, 2), "create(1, 0, 2, 2) = 1",
+            Sentences.test(promise, EMPTY,
+                Sentences.each(call + " throws IllegalState", 0, 1, 2), "create(1, 0, 2, 2) = 1",
                 Sentences.each(call + " throws IllegalState", 0, 2));
         }
     }
@@ -44,7 +45,8 @@ final class StepBoundaries {
         Sentences.test(10, SIDES, OBLONG, "swap(0, true, 0, 2) = 2 | slot 0 is [3,2,1;6,5,4] | "
             + "swap(0, false, 0, 2) throws IllegalArgument | swap(0, false, 2, 0) throws IllegalArgument | swap(0, false, 0, 1) = 3 | "
             + "slot 0 is [6,5,4;3,2,1]");
-        Sentences.test(10, "- `j`: another row or column", OBLONG, Sentences.each("swap(0, false, #, #) throws IllegalArgument", 0, 1),
+        Sentences.test(10, "- `j`: another row or column", OBLONG,
+            Sentences.each("swap(0, false, #, #) throws IllegalArgument", 0, 1),
             Sentences.each("swap(0, true, #, #) throws IllegalArgument", 0, 1, 2), "swap(0, true, 1, 2) = 2 | swap(0, true, 2, 1) = 3");
         Sentences.test(10, COUNT, "create(0, 0, 2, 2) = 1 | swap(0, false, 0, 1) = 1 | swap(0, true, 0, 1) = 2 | "
             + "times 197 swap(0, false, 0, 1) | swap(0, true, 0, 1) = 200 | swap(0, true, 0, 1) throws Arithmetic | back(0) = 199 | "
@@ -52,8 +54,10 @@ final class StepBoundaries {
         MatrixBoundaries.noSuchSlot(10, NO_SLOT, "swap(#, false, 0, 1)", "swap(#, true, 9, 9)");
         emptySlots(10, "swap(#, false, 0, 1)", "swap(#, true, 5, 5)");
         String argument = "Throws `IllegalArgumentException` if there is no such row or column, or both are the same";
-        Sentences.test(10, argument, OBLONG, Sentences.each("swap(0, false, #, 0) throws IllegalArgument | "
-            + "swap(0, false, 0, #) throws IllegalArgument", NO_ROWS), Sentences.each("swap(0, true, #, 0) throws IllegalArgument | "
+        Sentences.test(10, argument, OBLONG,
+            Sentences.each("swap(0, false, #, 0) throws IllegalArgument | "
+            + "swap(0, false, 0, #) throws IllegalArgument", NO_ROWS),
+            Sentences.each("swap(0, true, #, 0) throws IllegalArgument | "
             + "swap(0, true, 0, #) throws IllegalArgument", NO_COLUMNS),
             "swap(0, false, 1, 1) throws IllegalArgument | swap(0, true, 2, 2) throws IllegalArgument | "
             + "swap(0, true, -1, -1) throws IllegalArgument");
@@ -83,17 +87,23 @@ final class StepBoundaries {
     private static void addThrows() {
         String argument = "Throws `IllegalArgumentException` if there is no such row or column, both are the same, or the parts are not "
             + "those of an element of the ring that is in range";
-        Sentences.test(11, argument, OBLONG, Sentences.each("add(0, false, #, 0, 1, 0) throws IllegalArgument | "
-            + "add(0, false, 0, #, 1, 0) throws IllegalArgument", NO_ROWS), Sentences.each("add(0, true, #, 0, 1, 0) throws IllegalArgument | "
+        Sentences.test(11, argument, OBLONG,
+            Sentences.each("add(0, false, #, 0, 1, 0) throws IllegalArgument | "
+            + "add(0, false, 0, #, 1, 0) throws IllegalArgument", NO_ROWS),
+            Sentences.each("add(0, true, #, 0, 1, 0) throws IllegalArgument | "
             + "add(0, true, 0, #, 1, 0) throws IllegalArgument", NO_COLUMNS),
-            Sentences.each("add(0, false, #, #, 1, 0) throws IllegalArgument", 0, 1), Sentences.each("add(0, true, #, #, 0, 0) throws IllegalArgument",
+            Sentences.each("add(0, false, #, #, 1, 0) throws IllegalArgument", 0, 1),
+            Sentences.each("add(0, true, #, #, 0, 0) throws IllegalArgument",
             0, 1, 2));
-        Sentences.test(11, argument, "create(0, 0, 2, 2) = 1", Sentences.each("add(0, false, 0, 1, #) throws IllegalArgument",
+        Sentences.test(11, argument, "create(0, 0, 2, 2) = 1",
+            Sentences.each("add(0, false, 0, 1, #) throws IllegalArgument",
             "1000000001, 0", "-1000000001, 0", "1, 1", "0, -1", "-2147483648, 0"),
             "add(0, false, 0, 1, 1000000000, 0) = 1 | add(0, false, 0, 1, -1000000000, 0) = 2");
-        Sentences.test(11, argument, "create(0, 1, 2, 2) = 1", Sentences.each("add(0, true, 0, 1, #) throws IllegalArgument", "30001, 0",
+        Sentences.test(11, argument, "create(0, 1, 2, 2) = 1",
+            Sentences.each("add(0, true, 0, 1, #) throws IllegalArgument", "30001, 0",
             "-30001, 0", "0, 30001", "0, -30001"), "add(0, true, 0, 1, 30000, 30000) = 1 | add(0, false, 0, 1, -30000, -30000) = 2");
-        Sentences.test(11, argument, "create(0, 3, 2, 2) = 1", Sentences.each("add(0, true, 0, 1, #) throws IllegalArgument", "6561, 0",
+        Sentences.test(11, argument, "create(0, 3, 2, 2) = 1",
+            Sentences.each("add(0, true, 0, 1, #) throws IllegalArgument", "6561, 0",
             "-1, 0", "1, 1", "1, -1"), "add(0, true, 0, 1, 6560, 0) = 1 | add(0, true, 0, 1, 0, 0) = 2");
         // Where the sum would be out of range, or the log is full, this comes first all the same.
         Sentences.test(11, argument, "typed [1000000000;1000000000] | parse(0, 0) = 2 | add(0, false, 0, 1, 1, 0) throws Arithmetic | "
@@ -128,15 +138,21 @@ final class StepBoundaries {
         emptySlots(12, "scale(#, false, 0, 1, 0)", "scale(#, true, 5, 0, 0)");
         String argument = "Throws `IllegalArgumentException` if there is no such row or column, or the parts are not those of a unit of "
             + "the ring";
-        Sentences.test(12, argument, OBLONG, Sentences.each("scale(0, false, #, 1, 0) throws IllegalArgument", NO_ROWS), Sentences.each("scale(0, true, #, 1, 0) throws IllegalArgument",
+        Sentences.test(12, argument, OBLONG,
+            Sentences.each("scale(0, false, #, 1, 0) throws IllegalArgument", NO_ROWS),
+            Sentences.each("scale(0, true, #, 1, 0) throws IllegalArgument",
             NO_COLUMNS),
             Sentences.each("scale(0, false, 0, #) throws IllegalArgument", "0, 0", "2, 0", "-2, 0", "1, 1", "0, 1", "0, -1", "-1, 1",
             "1000000001, 0"), "scale(0, false, 1, -1, 0) = 2 | scale(0, true, 2, 1, 0) = 3");
-        Sentences.test(12, argument, "create(0, 1, 1, 1) = 1", Sentences.each("scale(0, false, 0, #) throws IllegalArgument", "0, 0",
-            "1, 1", "1, -1", "2, 0", "0, -2", "30001, 0", "-2147483648, -2147483648", "65536, 65537"), Sentences.each("scale(0, false, 0, #",
+        Sentences.test(12, argument, "create(0, 1, 1, 1) = 1",
+            Sentences.each("scale(0, false, 0, #) throws IllegalArgument", "0, 0",
+            "1, 1", "1, -1", "2, 0", "0, -2", "30001, 0", "-2147483648, -2147483648", "65536, 65537"),
+            Sentences.each("scale(0, false, 0, #",
             "0, 1) = 1", "0, -1) = 2", "1, 0) = 3", "-1, 0) = 4"));
-        Sentences.test(12, argument, "create(0, 5, 1, 1) = 1", Sentences.each("scale(0, false, 0, #) throws IllegalArgument", "0, 0",
-            "5, 0", "6, 0", "-1, 0", "1, 1", "390625, 0"), Sentences.each("scale(0, false, 0, #", "1, 0) = 1", "4, 0) = 2"));
+        Sentences.test(12, argument, "create(0, 5, 1, 1) = 1",
+            Sentences.each("scale(0, false, 0, #) throws IllegalArgument", "0, 0",
+            "5, 0", "6, 0", "-1, 0", "1, 1", "390625, 0"),
+            Sentences.each("scale(0, false, 0, #", "1, 0) = 1", "4, 0) = 2"));
         Sentences.test(12, argument, "create(0, 0, 1, 1) = 1 | times 200 scale(0, true, 0, -1, 0) | "
             + "scale(0, true, 0, 2, 0) throws IllegalArgument | scale(0, true, 1, 1, 0) throws IllegalArgument | "
             + "scale(0, true, 0, 1, 0) throws Arithmetic");
@@ -164,7 +180,8 @@ final class StepBoundaries {
             "typed [1;2] | parse(0, 0) = 2 | times 200 swap(0, false, 0, 1) | back(0) = 199 | back(0) = 198 | times 196 back(0) | "
             + "back(0) = 1 | back(0) = 0 | back(0) throws IllegalState | slot 0 is [1;2]");
         MatrixBoundaries.noSuchSlot(13, NO_SLOT, "back(#)");
-        Sentences.test(13, "Throws `IllegalStateException` if the slot is empty, or its log is empty", Sentences.each("back(#) throws IllegalState",
+        Sentences.test(13, "Throws `IllegalStateException` if the slot is empty, or its log is empty",
+            Sentences.each("back(#) throws IllegalState",
             0, 1, 2), "create(0, 0, 2, 2) = 1 | back(0) throws IllegalState | swap(0, true, 0, 1) = 1 | back(0) = 0 | "
             + "back(0) throws IllegalState | swap(0, true, 0, 1) = 1 | set(0, 0, 0, 1, 0) = 0 | back(0) throws IllegalState | typed [5] | "
             + "parse(0, 0) = 1 | back(0) throws IllegalState");
@@ -204,8 +221,10 @@ final class StepBoundaries {
         Sentences.test(14, state, "create(0, 2, 2, 2) = 1 | create(1, 3, 2, 2) = 1 | transfer(0, 1, false) throws IllegalState | "
             + "transfer(0, 1, true) throws IllegalState | create(1, 2, 2, 2) = 0 | transfer(0, 1, false) = 0 | create(1, 0, 2, 2) = 0 | "
             + "transfer(0, 1, false) throws IllegalState");
-        Sentences.test(14, state, "create(0, 0, 2, 3) = 1 | swap(0, false, 0, 1) = 1 | swap(0, true, 0, 1) = 2", Sentences.each("create(1, 0, #, 3) = 1 | "
-            + "transfer(0, 1, false) throws IllegalState | transfer(0, 1, true) = 1", 1), Sentences.each("create(1, 0, #, 3) = 0 | "
+        Sentences.test(14, state, "create(0, 0, 2, 3) = 1 | swap(0, false, 0, 1) = 1 | swap(0, true, 0, 1) = 2",
+            Sentences.each("create(1, 0, #, 3) = 1 | "
+            + "transfer(0, 1, false) throws IllegalState | transfer(0, 1, true) = 1", 1),
+            Sentences.each("create(1, 0, #, 3) = 0 | "
             + "transfer(0, 1, false) throws IllegalState | transfer(0, 1, true) = 1", 3, 4),
             Sentences.each("create(1, 0, 2, #) = 0 | transfer(0, 1, true) throws IllegalState | transfer(0, 1, false) = 1", 1, 2, 4),
             "create(1, 0, 2, 3) = 0 | transfer(0, 1, true) = 1 | transfer(0, 1, false) = 1");
@@ -275,8 +294,10 @@ final class StepBoundaries {
         Sentences.test(17, "Returns the number of steps of a log.",
             "create(0, 0, 2, 2) = 1 | steps(0) = 0 | swap(0, false, 0, 1) = 1 | steps(0) = 1 | back(0) = 0 | steps(0) = 0 | "
             + "times 200 swap(0, false, 0, 1) | steps(0) = 200 | swap(0, false, 0, 1) throws Arithmetic | steps(0) = 200");
-        Sentences.test(17, "Returns the number of steps; 0 if the slot is empty.", Sentences.each("steps(#) = 0", 0, 1, 2),
-            "create(1, 0, 2, 2) = 1 | swap(1, false, 0, 1) = 1", Sentences.each("steps(#) = 0", 0, 2), "steps(1) = 1");
+        Sentences.test(17, "Returns the number of steps; 0 if the slot is empty.",
+            Sentences.each("steps(#) = 0", 0, 1, 2),
+            "create(1, 0, 2, 2) = 1 | swap(1, false, 0, 1) = 1",
+            Sentences.each("steps(#) = 0", 0, 2), "steps(1) = 1");
         MatrixBoundaries.noSuchSlot(17, NO_SLOT, "steps(#)");
     }
 
@@ -284,7 +305,8 @@ final class StepBoundaries {
         String three = "create(0, 1, 3, 3) = 1 | swap(0, false, 2, 1) = 1 | add(0, true, 0, 2, -30000, 30000) = 2 | "
             + "scale(0, false, 1, 0, -1) = 3";
         Sentences.test(18, "Returns a property of a step of a log.", three, "step(0, 0, 0) = 0 | step(0, 1, 0) = 4 | step(0, 2, 0) = 2");
-        Sentences.test(18, "- `step`: the index of the step, from 0", three, "step(0, 0, 1) = 2 | step(0, 2, 1) = 1", Sentences.each("step(0, #, 1) throws IndexOutOfBounds",
+        Sentences.test(18, "- `step`: the index of the step, from 0", three, "step(0, 0, 1) = 2 | step(0, 2, 1) = 1",
+            Sentences.each("step(0, #, 1) throws IndexOutOfBounds",
             -1, 3, 199, 200, Integer.MIN_VALUE, Integer.MAX_VALUE),
             "back(0) = 2 | step(0, 2, 0) throws IndexOutOfBounds | step(0, 1, 0) = 4");
         Sentences.test(18, "- `step`: the index of the step, from 0",
@@ -294,7 +316,8 @@ final class StepBoundaries {
         Sentences.test(18, "- `what`: 0: its kind; 1: i; 2: j (NONE in the kinds 2 and 5); 3, 4: the first and the second part of f (0 in "
             + "the kinds 0 and 3)", "create(0, 1, 3, 3) = 1 | swap(0, false, 2, 1) = 1 | add(0, false, 2, 0, 5, -6) = 2 | "
             + "scale(0, false, 2, 0, -1) = 3 | swap(0, true, 0, 2) = 4 | add(0, true, 1, 2, -7, 8) = 5 | scale(0, true, 1, -1, 0) = 6",
-            "log 0 is 0,2,1,0,0 1,2,0,5,-6 2,2,-1,0,-1 3,0,2,0,0 4,1,2,-7,8 5,1,-1,-1,0", Sentences.each("step(0, 0, #) throws IllegalArgument",
+            "log 0 is 0,2,1,0,0 1,2,0,5,-6 2,2,-1,0,-1 3,0,2,0,0 4,1,2,-7,8 5,1,-1,-1,0",
+            Sentences.each("step(0, 0, #) throws IllegalArgument",
             -1, 5, 6, Integer.MIN_VALUE, Integer.MAX_VALUE),
             "step(0, 5, 4) = 0 | step(0, 5, 0) = 5 | step(0, 5, 2) = -1 | step(0, 2, 2) = -1");
         Sentences.test(18, "Returns the property.",
@@ -302,12 +325,14 @@ final class StepBoundaries {
             + "step(0, 0, 3) = -1000000000 | step(0, 1, 3) = 1000000000 | step(0, 1, 4) = 0 | create(0, 7, 2, 2) = 0 | "
             + "add(0, false, 0, 1, 5764800, 0) = 1 | step(0, 0, 3) = 5764800 | step(0, 0, 4) = 0");
         MatrixBoundaries.noSuchSlot(18, NO_SLOT + " or step", "step(#, 0, 0)", "step(#, -1, 9)", "step(0, #, 0)", "step(0, #, 5)");
-        Sentences.test(18, NO_SLOT + " or step", Sentences.each("step(#, 0, 0) throws IndexOutOfBounds | "
+        Sentences.test(18, NO_SLOT + " or step",
+            Sentences.each("step(#, 0, 0) throws IndexOutOfBounds | "
             + "step(#, 0, 5) throws IndexOutOfBounds", 0, 1, 2),
             "create(0, 0, 1, 1) = 1 | step(0, 0, 0) throws IndexOutOfBounds | scale(0, true, 0, 1, 0) = 1 | step(0, 0, 0) = 5 | "
             + "step(0, 1, 0) throws IndexOutOfBounds | step(0, 1, 5) throws IndexOutOfBounds | step(1, 0, 0) throws IndexOutOfBounds");
         Sentences.test(18, "Throws `IllegalArgumentException` if what is out of range",
-            "create(0, 0, 1, 1) = 1 | scale(0, true, 0, 1, 0) = 1", Sentences.each("step(0, 0, #) throws IllegalArgument", -1, 5,
+            "create(0, 0, 1, 1) = 1 | scale(0, true, 0, 1, 0) = 1",
+            Sentences.each("step(0, 0, #) throws IllegalArgument", -1, 5,
             Integer.MIN_VALUE, Integer.MAX_VALUE), "step(0, 0, 0) = 5 | step(0, 0, 4) = 0");
     }
 
@@ -326,7 +351,8 @@ final class StepBoundaries {
             + "times 200 swap(0, false, 0, 1) | entryAfter(0, 200, 0, 0, 0) = 1 | entryAfter(0, 199, 0, 0, 0) = 2 | "
             + "entryAfter(0, 0, 0, 0, 0) = 1 | entryAfter(0, 201, 0, 0, 0) throws IllegalArgument");
         Sentences.test(19, "- `part`: 0 for the first part, 1 for the second part", three,
-            "entryAfter(0, 0, 0, 0, 0) = 1 | entryAfter(0, 0, 1, 1, 1) = 4", Sentences.each("entryAfter(0, 0, 0, 0, #) throws IllegalArgument",
+            "entryAfter(0, 0, 0, 0, 0) = 1 | entryAfter(0, 0, 1, 1, 1) = 4",
+            Sentences.each("entryAfter(0, 0, 0, 0, #) throws IllegalArgument",
             -1, 2, Integer.MIN_VALUE, Integer.MAX_VALUE));
         Sentences.test(19, "Returns the part.",
             "typed [-1000000000;1000000000] | parse(0, 0) = 2 | add(0, false, 0, 1, 2, 0) = 1 | entryAfter(0, 0, 0, 0, 0) = -1000000000 | "
@@ -334,9 +360,11 @@ final class StepBoundaries {
         MatrixBoundaries.noSuchSlot(19, NO_SLOT, "entryAfter(#, 0, 0, 0, 0)", "entryAfter(#, 9, 9, 9, 9)");
         emptySlots(19, "entryAfter(#, 0, 0, 0, 0)", "entryAfter(#, 1, 9, 9, 9)");
         Sentences.test(19, "Throws `IllegalArgumentException` if steps is out of range, there is no such row or column, or part is out of "
-            + "range", OBLONG, "entryAfter(0, 1, 1, 2, 1) = 0", Sentences.each("entryAfter(0, #, 0, 0, 0) throws IllegalArgument", -1, 2),
+            + "range", OBLONG, "entryAfter(0, 1, 1, 2, 1) = 0",
+            Sentences.each("entryAfter(0, #, 0, 0, 0) throws IllegalArgument", -1, 2),
             Sentences.each("entryAfter(0, 0, #, 0, 0) throws IllegalArgument", NO_ROWS),
-            Sentences.each("entryAfter(0, 1, 0, #, 0) throws IllegalArgument", NO_COLUMNS), Sentences.each("entryAfter(0, 0, 0, 0, #) throws IllegalArgument",
+            Sentences.each("entryAfter(0, 1, 0, #, 0) throws IllegalArgument", NO_COLUMNS),
+            Sentences.each("entryAfter(0, 0, 0, 0, #) throws IllegalArgument",
             -1, 2));
     }
 }

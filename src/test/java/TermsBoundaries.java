@@ -35,12 +35,16 @@ final class TermsBoundaries {
     private static void rings() {
         String sentence = "The rings have these numbers: 0 the integers; 1 the Gaussian integers a + bi; 2, 3, 5 and 7 the polynomials"
             + " over the field with p elements, where p is the number of the ring.";
-        Sentences.test(T, sentence, "create(0, 0, 1, 1) = 1 | ring(0) = 0", Sentences.each("create(0, #, 1, 1) = 0 | ring(0) = #", 1, 2, 3,
+        Sentences.test(T, sentence, "create(0, 0, 1, 1) = 1 | ring(0) = 0",
+            Sentences.each("create(0, #, 1, 1) = 0 | ring(0) = #", 1, 2, 3,
             5, 7));
         Sentences.test(T, sentence, Sentences.each("create(0, #, 1, 1) throws IllegalArgument", NO_RINGS),
-            Sentences.each("quotient(#, 1, 1, 0) throws IllegalArgument", NO_RINGS), Sentences.each("gcd(#, 1, 0, 1, 0, 0) throws IllegalArgument",
+            Sentences.each("quotient(#, 1, 1, 0) throws IllegalArgument", NO_RINGS),
+            Sentences.each("gcd(#, 1, 0, 1, 0, 0) throws IllegalArgument",
             NO_RINGS),
-            "typed [1]", Sentences.each("fault(#) throws IllegalArgument", NO_RINGS), Sentences.each("parse(0, #) throws IllegalArgument",
+            "typed [1]",
+            Sentences.each("fault(#) throws IllegalArgument", NO_RINGS),
+            Sentences.each("parse(0, #) throws IllegalArgument",
             NO_RINGS));
         // Seven halves: 3 and 1/2, rounded; x^2+x+1 by x; 2x+1 by 2; x+2 by 2; x by 2.
         Sentences.test(T, sentence, "quotient(0, 7, 2, 0) = 3 | quotient(1, 7, 2, 0) = 4 | quotient(2, 7, 2, 0) = 3 | "
@@ -55,9 +59,11 @@ final class TermsBoundaries {
         Sentences.test(T, "An integer is its first part, and its second part is 0.",
             "create(0, 0, 2, 1) = 1 | set(0, 0, 0, -5, 0) = 0 | entry(0, 0, 0, 1) = 0",
             Sentences.each("set(0, 0, 0, 5, #) throws IllegalArgument", -1, 1, Integer.MIN_VALUE, Integer.MAX_VALUE),
-            Sentences.each("add(0, false, 0, 1, 5, #) throws IllegalArgument", -1, 1), Sentences.each("scale(0, false, 0, 1, #) throws IllegalArgument",
+            Sentences.each("add(0, false, 0, 1, 5, #) throws IllegalArgument", -1, 1),
+            Sentences.each("scale(0, false, 0, 1, #) throws IllegalArgument",
             -1, 1),
-            Sentences.each("gcd(0, 5, #, 5, 0, 0) throws IllegalArgument", -1, 1), Sentences.each("gcd(0, 5, 0, 5, #, 0) throws IllegalArgument",
+            Sentences.each("gcd(0, 5, #, 5, 0, 0) throws IllegalArgument", -1, 1),
+            Sentences.each("gcd(0, 5, 0, 5, #, 0) throws IllegalArgument",
             -1, 1));
         Sentences.test(T, "For a Gaussian integer a + bi these are a and b.",
             "typed [7-9i] | parse(0, 1) = 1 | entry(0, 0, 0, 0) = 7 | entry(0, 0, 0, 1) = -9",
@@ -84,11 +90,14 @@ final class TermsBoundaries {
         Object[] outside = {-1000000001, 1000000001, Integer.MIN_VALUE, Integer.MAX_VALUE};
         Sentences.test(T, sentence, "create(0, 0, 2, 1) = 1 | set(0, 0, 0, -1000000000, 0) = 0 | "
             + "set(0, 0, 0, 1000000000, 0) = -1000000000 | set(0, 0, 0, 0, 0) = 1000000000",
-            Sentences.each("set(0, 0, 0, #, 0) throws IllegalArgument", outside), Sentences.each("add(0, false, 0, 1, #, 0) throws IllegalArgument",
+            Sentences.each("set(0, 0, 0, #, 0) throws IllegalArgument", outside),
+            Sentences.each("add(0, false, 0, 1, #, 0) throws IllegalArgument",
             outside),
-            Sentences.each("quotient(0, #, 1, 0) throws IllegalArgument", outside), Sentences.each("quotient(0, 1, #, 0) throws IllegalArgument",
+            Sentences.each("quotient(0, #, 1, 0) throws IllegalArgument", outside),
+            Sentences.each("quotient(0, 1, #, 0) throws IllegalArgument",
             outside),
-            Sentences.each("gcd(0, #, 0, 1, 0, 0) throws IllegalArgument", outside), Sentences.each("gcd(0, 1, 0, #, 0, 0) throws IllegalArgument",
+            Sentences.each("gcd(0, #, 0, 1, 0, 0) throws IllegalArgument", outside),
+            Sentences.each("gcd(0, 1, 0, #, 0, 0) throws IllegalArgument",
             outside),
             "add(0, false, 0, 1, -1000000000, 0) = 1 | add(0, false, 0, 1, 1000000000, 0) = 2 | "
             + "quotient(0, -1000000000, 1000000000, 0) = -1",
@@ -142,7 +151,8 @@ final class TermsBoundaries {
     private static void quotients() {
         Sentences.test(T, "The quotient of an element a and an element b that is not 0 is the following element q; the remainder is a - q "
             + "* b, and a is divisible by b if it is 0.",
-            "quotient(0, 0, 5, 0) = 0 | quotient(1, 0, 5, 0) = 0 | quotient(5, 0, 7, 0) = 0", Sentences.each("quotient(#, 1, 0, 0) throws Arithmetic",
+            "quotient(0, 0, 5, 0) = 0 | quotient(1, 0, 5, 0) = 0 | quotient(5, 0, 7, 0) = 0",
+            Sentences.each("quotient(#, 1, 0, 0) throws Arithmetic",
             0, 1, 2, 3, 5, 7),
             // Divisible, and with a remainder of 1: a solution, and none.
             "typed [3] | parse(0, 0) = 1 | typed [9] | parse(1, 0) = 1 | solve(0, 1, 2) = 1 | slot 2 is [3] | typed [10] | "
@@ -186,7 +196,8 @@ final class TermsBoundaries {
 
     private static void unitsAndNormalElements() {
         String units = "The units are 1 and -1; 1, -1, i and -i; the polynomials with the degree 0.";
-        Sentences.test(T, units, "create(0, 0, 1, 1) = 1 | scale(0, false, 0, 1, 0) = 1 | scale(0, false, 0, -1, 0) = 2", Sentences.each("scale(0, false, 0, #, 0) throws IllegalArgument",
+        Sentences.test(T, units, "create(0, 0, 1, 1) = 1 | scale(0, false, 0, 1, 0) = 1 | scale(0, false, 0, -1, 0) = 2",
+            Sentences.each("scale(0, false, 0, #, 0) throws IllegalArgument",
             -2, 0, 2, 1000000000));
         Sentences.test(T, units, "create(0, 1, 1, 1) = 1 | scale(0, false, 0, 1, 0) = 1 | scale(0, false, 0, -1, 0) = 2 | "
             + "scale(0, false, 0, 0, 1) = 3 | scale(0, false, 0, 0, -1) = 4",
@@ -197,7 +208,8 @@ final class TermsBoundaries {
             for (int unit = 1; unit < p; unit++) {
                 all += " | scale(0, false, 0, " + unit + ", 0) = " + unit;
             }
-            Sentences.test(T, units, all, Sentences.each("scale(0, false, 0, #, 0) throws IllegalArgument", -1, 0, p, p + 1));
+            Sentences.test(T, units, all,
+                Sentences.each("scale(0, false, 0, #, 0) throws IllegalArgument", -1, 0, p, p + 1));
         }
         String normal = "An element is normal if it is 0; or an integer above 0; or a Gaussian integer with a first part above 0 and a "
             + "second part of at least 0;"
@@ -230,7 +242,8 @@ final class TermsBoundaries {
 
     private static void slots() {
         String sentence = "There are three slots, 0 to 2, at first empty.";
-        Sentences.test(T, sentence, Sentences.each("ring(#) = -1 | rows(#) = 0 | columns(#) = 0 | steps(#) = 0 | "
+        Sentences.test(T, sentence,
+            Sentences.each("ring(#) = -1 | rows(#) = 0 | columns(#) = 0 | steps(#) = 0 | "
             + "write(#) throws IllegalState", 0, 1, 2), Sentences.each("create(#, 0, 1, 1) = 1", 0, 1, 2));
         for (String call : new String[] {"create(#, 0, 1, 1)", "set(#, 0, 0, 1, 0)", "copy(#, 0)", "copy(0, #)", "multiply(#, 0, 0)",
             "multiply(0, #, 0)", "multiply(0, 0, #)", "ring(#)",
@@ -257,7 +270,8 @@ final class TermsBoundaries {
                 + "entry(2, -1, 0, 0) throws IllegalArgument | entry(2, 0, -1, 0) throws IllegalArgument",
                 "set(2, " + rows + ", 0, 1, 0) throws IllegalArgument | set(2, 0, " + columns + ", 1, 0) throws IllegalArgument");
         }
-        Sentences.test(T, shape, Sentences.each("create(0, 0, #, 1) throws IllegalArgument | create(0, 0, 1, #) throws IllegalArgument", -1,
+        Sentences.test(T, shape,
+            Sentences.each("create(0, 0, #, 1) throws IllegalArgument | create(0, 0, 1, #) throws IllegalArgument", -1,
             0, 5, Integer.MIN_VALUE, Integer.MAX_VALUE));
         String begins = "When the log of a slot begins, it is empty, and the matrix as it is then is the original matrix.";
         String filled = "typed [1,2;3,5] | parse(0, 0) = 2 | copy(0, 1) = 0 | scale(1, false, 0, -1, 0) = 1 | swap(1, false, 0, 1) = 2";
@@ -434,7 +448,8 @@ final class TermsBoundaries {
             "typed [1,0,6;0,1,-6;0,0,5] | parse(0, 0) = 3 | hermite(0) = 3 | log 0 is 1,0,2,-1,0 1,1,2,2,0 | slot 0 is [1,0,1;0,1,4;0,0,5]");
         Sentences.test(T, "7. r increases by 1.", "typed [1,0;0,1;0,0] | parse(0, 0) = 3 | hermite(0) = 2 | log 0 is ",
             "typed [0,1;0,0;0,1] | parse(0, 0) = 3 | hermite(0) = 1 | log 0 is 1,2,0,-1,0");
-        Sentences.test(T, "The rank is r in the end.", Sentences.each("create(0, 0, #, 3) = 1 | hermite(0) = 0", 4),
+        Sentences.test(T, "The rank is r in the end.",
+            Sentences.each("create(0, 0, #, 3) = 1 | hermite(0) = 0", 4),
             "typed [0,0,0;0,0,1] | parse(0, 0) = 2 | hermite(0) = 1", "typed [1,2;2,4;3,6;4,9] | parse(0, 0) = 4 | hermite(0) = 2",
             "typed [1,0,0,0;0,1,0,0;0,0,1,0;0,0,0,1] | parse(0, 0) = 4 | hermite(0) = 4 | log 0 is ",
             "typed [1,2,3,4] | parse(0, 0) = 1 | hermite(0) = 1");

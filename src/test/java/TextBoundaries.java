@@ -94,7 +94,8 @@ final class TextBoundaries {
         Sentences.test(T, "term = digit | [ digit ] \"x\" [ \"^\" digit ]",
             "fault 3 of [2] is -1 | fault 3 of [x] is -1 | fault 3 of [2x] is -1 | fault 3 of [x^2] is -1 | fault 3 of [2x^2] is -1 | "
             + "fault 3 of [] is 1 | fault 3 of [^2] is 1 | fault 3 of [2^2] is 2 | fault 3 of [22] is 2 | fault 3 of [22x] is 2",
-            "fault 3 of [x^] is 3 | fault 3 of [x^x] is 3 | fault 3 of [x^22] is 4 | fault 3 of [x^2x] is 4 | fault 3 of [x^2^2] is 4 | "
+            "fault 3 of [x^] is 3 | fault 3 of [x^/] is 3 | fault 3 of [x^:] is 3 | fault 3 of [x^x] is 3 | fault 3 of [x^22] is 4 | "
+            + "fault 3 of [x^2x] is 4 | fault 3 of [x^2^2] is 4 | "
             + "fault 3 of [x2] is 2 | fault 3 of [x^+1] is 3 | fault 3 of [2xx] is 3 | fault 3 of [2x2] is 3 | fault 3 of [x_2] is 2 | "
             + "fault 3 of [x]2] is 3");
     }
@@ -233,7 +234,8 @@ final class TextBoundaries {
         Sentences.test(T, sentence, "fault(0) = 0 | fault(1) = 0 | fault(2) = 0 | fault(7) = 0 | parse(0, 0) throws IllegalState | "
             + "fault 0 of [ is 1 | fault 0 of [- is 2 | fault 0 of [1 is 2 | fault 0 of [12 is 3 | fault 0 of [1, is 3 | "
             + "fault 0 of [1; is 3 | fault 0 of [1,2 is 4 | fault 0 of [1;2 is 4 | fault 0 of [1,2;3 is 6 | fault 0 of [1,2;3,4 is 8",
-            "fault 0 of [1,2,3,4 is 8 | fault 0 of [1;2;3;4 is 8 | fault 0 of [1000000000 is 11 | fault 1 of [ is 1 | fault 1 of [- is 2 | "
+            "fault 0 of [1,2,3,4 is 8 | fault 0 of [1;2;3;4 is 8 | fault 0 of [1,2;3,4;5,6;7 is 14 | fault 0 of [1,2;3,4;5,6;7, is 15 | "
+            + "fault 0 of [1,2;3,4;5,6;7,8 is 16 | fault 0 of [1000000000 is 11 | fault 1 of [ is 1 | fault 1 of [- is 2 | "
             + "fault 1 of [i is 2 | fault 1 of [-i is 3 | fault 1 of [5i is 3 | fault 1 of [5+ is 3 | fault 1 of [5- is 3 | "
             + "fault 1 of [5+2 is 4 | fault 1 of [5+i is 4 | fault 1 of [5+2i is 5 | fault 1 of [i, is 3",
             "fault 7 of [ is 1 | fault 7 of [6 is 2 | fault 7 of [x is 2 | fault 7 of [6x is 3 | fault 7 of [x^ is 3 | "

@@ -20,14 +20,19 @@ final class TextCallBoundaries {
         Sentences.test(29, "Appends a byte to the text.",
             "type(91) = 1 | type(55) = 2 | type(93) = 3 | fault(0) = -1 | parse(0, 0) = 1 | slot 0 is [7] | type(91) = 1 | type(54) = 2 | "
             + "type(93) = 3 | type(93) = 4 | fault(0) = 3");
-        Sentences.test(29, "- `code`: 0 to 255", Sentences.each("type(#", "0) = 1", "1) = 2", "127) = 3", "128) = 4", "254) = 5",
-            "255) = 6"), Sentences.each("type(#) throws IllegalArgument", -1, 256, 257, 347, -165, Integer.MIN_VALUE, Integer.MAX_VALUE));
+        Sentences.test(29, "- `code`: 0 to 255",
+            Sentences.each("type(#", "0) = 1", "1) = 2", "127) = 3", "128) = 4", "254) = 5",
+            "255) = 6"),
+            Sentences.each("type(#) throws IllegalArgument", -1, 256, 257, 347, -165, Integer.MIN_VALUE, Integer.MAX_VALUE));
         Sentences.test(29, "Returns the length of the text then.",
             "type(91) = 1 | type(91) = 2 | clearText() = 2 | type(91) = 1 | times 118 type(49) | type(93) = 120 | "
             + "type(93) throws IllegalState | clearText() = 120 | type(93) = 1");
-        Sentences.test(29, "Throws `IllegalArgumentException` if code is out of range", Sentences.each("type(#) throws IllegalArgument", -1,
-            256, Integer.MIN_VALUE, Integer.MAX_VALUE), "times 119 type(91)", Sentences.each("type(#) throws IllegalArgument", -1, 256),
-            "type(91) = 120", Sentences.each("type(#) throws IllegalArgument", -1, 256, Integer.MIN_VALUE, Integer.MAX_VALUE));
+        Sentences.test(29, "Throws `IllegalArgumentException` if code is out of range",
+            Sentences.each("type(#) throws IllegalArgument", -1,
+            256, Integer.MIN_VALUE, Integer.MAX_VALUE), "times 119 type(91)",
+                Sentences.each("type(#) throws IllegalArgument", -1, 256),
+            "type(91) = 120",
+            Sentences.each("type(#) throws IllegalArgument", -1, 256, Integer.MIN_VALUE, Integer.MAX_VALUE));
         Sentences.test(29, "Throws `IllegalStateException` if the text has 120 bytes", "times 119 type(49) | type(49) = 120",
             Sentences.each("type(#) throws IllegalState", 0, 49, 255), "fault(0) = 0 | clearText() = 120 | type(49) = 1");
     }
@@ -57,8 +62,11 @@ final class TextCallBoundaries {
             + "clearText() = 120",
             "typed [111111111,111111111,111111111;111111111,111111111,111111111;111111111,111111111,111111111;111111111,111111111,111111111 | "
             + "fault(0) = 120 | fault(7) = 2");
-        Sentences.test(31, "Throws `IllegalArgumentException` if there is no such ring", Sentences.each("fault(#) throws IllegalArgument",
-            NO_RINGS), "typed [1]", Sentences.each("fault(#) throws IllegalArgument", NO_RINGS), Sentences.each("fault(#) = -1", 0, 1, 2, 3,
+        Sentences.test(31, "Throws `IllegalArgumentException` if there is no such ring",
+            Sentences.each("fault(#) throws IllegalArgument",
+            NO_RINGS), "typed [1]",
+                Sentences.each("fault(#) throws IllegalArgument", NO_RINGS),
+                Sentences.each("fault(#) = -1", 0, 1, 2, 3,
             5, 7));
     }
 
@@ -95,7 +103,8 @@ final class TextCallBoundaries {
             throwing, "parse(0, 0) = 1");
         String fault = "Throws `IllegalStateException` if the text has a fault (it stays then)";
         Sentences.test(32, fault, "parse(0, 0) throws IllegalState | typed [5 | parse(0, 0) throws IllegalState | clearText() = 2 | "
-            + "typed [5 | parse(0, 0) throws IllegalState | type(93) = 3", Sentences.each("parse(0, #) throws IllegalState", 2, 3, 5),
+            + "typed [5 | parse(0, 0) throws IllegalState | type(93) = 3",
+            Sentences.each("parse(0, #) throws IllegalState", 2, 3, 5),
             "parse(0, 7) = 1 | typed [1,2;3] | parse(0, 0) throws IllegalState | parse(1, 0) throws IllegalState | clearText() = 7",
             "typed [1]] | parse(0, 0) throws IllegalState | ring(0) = 7 | clearText() = 4 | typed [1000000001] | "
             + "parse(0, 0) throws IllegalState | clearText() = 12 | typed [1000000000] | parse(0, 0) = 1");
@@ -129,8 +138,10 @@ final class TextCallBoundaries {
             + "written(193) throws IndexOutOfBounds | write(0) = 561 | written(0) = 91 | written(34) = 54 | written(35) = 44 | "
             + "written(560) = 93");
         MatrixBoundaries.noSuchSlot(33, NO_SLOT, "write(#)");
-        Sentences.test(33, "Throws `IllegalStateException` if the slot is empty", Sentences.each("write(#) throws IllegalState", 0, 1, 2),
-            "create(1, 0, 1, 1) = 1 | write(1) = 3", Sentences.each("write(#) throws IllegalState", 0, 2), "written(1) = 48");
+        Sentences.test(33, "Throws `IllegalStateException` if the slot is empty",
+            Sentences.each("write(#) throws IllegalState", 0, 1, 2),
+            "create(1, 0, 1, 1) = 1 | write(1) = 3",
+            Sentences.each("write(#) throws IllegalState", 0, 2), "written(1) = 48");
     }
 
     private static void written() {
@@ -144,7 +155,8 @@ final class TextCallBoundaries {
         Sentences.test(34, "Returns the byte.",
             "typed [9,x] | parse(0, 7) throws IllegalState | clearText() = 5 | typed [6,x] | parse(0, 7) = 1 | write(0) = 5 | "
             + "written(1) = 54 | written(3) = 120");
-        Sentences.test(34, "Throws `IndexOutOfBoundsException` if there is no such byte", Sentences.each("written(#) throws IndexOutOfBounds",
+        Sentences.test(34, "Throws `IndexOutOfBoundsException` if there is no such byte",
+            Sentences.each("written(#) throws IndexOutOfBounds",
             -1, 0, 1, Integer.MIN_VALUE, Integer.MAX_VALUE),
             "typed [1] | written(0) throws IndexOutOfBounds | parse(0, 0) = 1 | written(0) throws IndexOutOfBounds | write(0) = 3 | "
             + "written(0) = 91 | written(3) throws IndexOutOfBounds",
