@@ -1,3 +1,4 @@
+import java.lang.reflect.Constructor;
 import java.lang.reflect.Field;
 import java.lang.reflect.Member;
 import java.lang.reflect.Method;
@@ -23,8 +24,11 @@ public final class FaceTest {
         int modifiers = RingMatrices.class.getModifiers();
         Script.check("the class is not public and final", Modifier.isPublic(modifiers) && Modifier.isFinal(modifiers));
         Script.check("NONE is not -1", RingMatrices.NONE == -1);
-        Script.check("there is not one public constructor", RingMatrices.class.getDeclaredConstructors().length == 1
-            && RingMatrices.class.getConstructors().length == 1);
+        Script.check("there is not one public constructor", RingMatrices.class.getConstructors().length == 1
+            && RingMatrices.class.getConstructors()[0].getParameterCount() == 0);
+        for (Constructor<?> constructor : RingMatrices.class.getDeclaredConstructors()) {
+            checkHidden(constructor, constructor.getParameterCount() == 0);
+        }
         Set<String> due = new TreeSet<>(Arrays.asList(FACE));
         Set<String> found = new TreeSet<>();
         Set<String> publicNames = new TreeSet<>();
@@ -44,8 +48,8 @@ public final class FaceTest {
             checkHidden(field, field.getName().equals("NONE"));
         }
         for (Class<?> inside : RingMatrices.class.getDeclaredClasses()) {
-            Script.check("a class inside is not static, or is public: " + inside,
-                Modifier.isStatic(inside.getModifiers()) && !Modifier.isPublic(inside.getModifiers()));
+            Script.check("a class inside is public or protected: " + inside,
+                !Modifier.isPublic(inside.getModifiers()) && !Modifier.isProtected(inside.getModifiers()));
         }
         Script.finish();
     }

@@ -32,8 +32,16 @@ final class Script {
     private static final Set<String> ONLY_TELL = Set.of("ring", "rows", "columns", "entry", "steps", "step", "entryAfter", "invariant",
         "order", "determinant", "sameSpan", "areEquivalent", "quotient", "gcd", "fault", "written");
     private static final int CALLS = 512;
+    private static final long PATIENCE_IN_MILLISECONDS = 60000;
     private static int wrong;
-    private static int checked;
+    private static volatile int checked;
+
+    static {
+        // A call that does not end is wrong, too.
+        Thread watch = new Thread(Script::failWithoutProgress);
+        watch.setDaemon(true);
+        watch.start();
+    }
 
 
     /** A call with its arguments, which can be made on any object of the class or of the model. */
@@ -179,7 +187,7 @@ final class Script {
     }
 
     static void check(String what, boolean holds) {
-        checked++;
+        checked = checked + 1;
         if (!holds) {
             wrong++;
             System.out.println(what);
@@ -192,6 +200,19 @@ final class Script {
         if (wrong > 0 || checked == 0) {
             System.exit(1);
         }
+    }
+
+    private static void failWithoutProgress() {
+        try {
+            for (int last = -1; last != checked;) {
+                last = checked;
+                Thread.sleep(PATIENCE_IN_MILLISECONDS);
+            }
+        } catch (InterruptedException e) {
+            return;
+        }
+        System.out.println("a call did not end");
+        Runtime.getRuntime().halt(1);
     }
 
     /** The answer of a call, a boolean as 1 or 0, or "throws " and the name of the exception. */
