@@ -1,14 +1,22 @@
+import java.io.IOException;
 import java.lang.reflect.Constructor;
 import java.lang.reflect.Field;
 import java.lang.reflect.Member;
 import java.lang.reflect.Method;
 import java.lang.reflect.Modifier;
+import java.nio.file.Files;
+import java.nio.file.Path;
 import java.util.Arrays;
 import java.util.Set;
 import java.util.TreeSet;
+import java.util.regex.Matcher;
+import java.util.regex.Pattern;
 
-/** The class has the document's face, and shows nothing else. */
+/** The class has the document's face, and shows nothing else; run from the project's folder. */
 public final class FaceTest {
+    private static final Path DOCUMENT = Path.of("../shared/DOC.md");
+    private static final Path SOURCE = Path.of("src/main/java/RingMatrices.java");
+    private static final Pattern HEAD = Pattern.compile("Ahead of the calls (.*) the interface says: (---- .*)\\.");
     private static final String[] FACE = {
         "int create(int,int,int,int)", "int set(int,int,int,int,int)", "int copy(int,int)", "int multiply(int,int,int)",
         "int ring(int)", "int rows(int)", "int columns(int)", "int entry(int,int,int,int)",
@@ -20,7 +28,7 @@ public final class FaceTest {
         "int type(int)", "int clearText()", "int fault(int)", "int parse(int,int)", "int write(int)", "int written(int)",
     };
 
-    public static void main(String[] arguments) {
+    public static void main(String[] arguments) throws IOException {
         int modifiers = RingMatrices.class.getModifiers();
         Script.check("the class is not public and final", Modifier.isPublic(modifiers) && Modifier.isFinal(modifiers));
         Script.check("NONE is not -1", RingMatrices.NONE == -1);
@@ -51,7 +59,44 @@ public final class FaceTest {
             Script.check("a class inside is public or protected: " + inside,
                 !Modifier.isPublic(inside.getModifiers()) && !Modifier.isProtected(inside.getModifiers()));
         }
+        if (Files.isReadable(DOCUMENT)) {
+            String document = Files.readString(DOCUMENT);
+            String source = Files.readString(SOURCE);
+            compareSignatures(document.substring(document.indexOf("```java\n"), document.indexOf("## Terms")), source);
+            compareHeads(document, source);
+        }
         Script.finish();
+    }
+
+    /** Each line of the document's face is in the source too, up to blanks and line ends, and in the document's order. */
+    private static void compareSignatures(String face, String source) {
+        String plain = source.replaceAll("\\s+", " ");
+        int signatures = 0;
+        int last = 0;
+        for (String line : face.split("\n")) {
+            if (line.startsWith("    public ")) {
+                String due = line.strip().replaceAll(";$", "");
+                int at = plain.indexOf(due.contains("(") ? due + " {" : due + ";");
+                Script.check("not in the source, or not in the document's order: " + line, at > last);
+                last = at;
+                signatures++;
+            }
+        }
+        Script.check("the document's face has " + signatures + " lines", signatures == FACE.length + 2);
+    }
+
+    /** The methods stand below the heads that the document gives them. */
+    private static void compareHeads(String document, String source) {
+        int heads = 0;
+        for (Matcher head = HEAD.matcher(document); head.find(); heads++) {
+            int start = source.indexOf("// " + head.group(2) + "\n");
+            int end = source.indexOf("// ----", start + 1);
+            for (String name : head.group(1).replaceAll("[` ]", "").split(",")) {
+                int at = source.indexOf(" " + name + "(", Math.max(start, 0));
+                Script.check(name + " does not stand below " + head.group(2), start >= 0 && at > start && at < end);
+            }
+        }
+        Script.check("the document has " + heads + " heads", heads == 5);
     }
 
     private static void checkHidden(Member member, boolean ofTheFace) {
